@@ -196,6 +196,11 @@ public final class PromiseTests {
         FactLines x = new FactLines();
         due("fault ahead", x.fault(), NONE);
         bad(x, "source 100", 7);
+        right(x, "source 0;source 99;rank 0 0;rank 1 99", 4);
+        bad(x, "zource 1", 0);
+        bad(x, "sourcez 1", 0);
+        bad(x, "soarce 1", 0);
+        bad(x, "cut 0 aat 1", 6);
         bad(x, "source 00009", 7);
         bad(x, "source x", 7);
         bad(x, "source", 6);
@@ -217,15 +222,15 @@ public final class PromiseTests {
         bad(x, "source 1;fact 7 0 0 1000 100", 25);
         bad(x, "source 1;fact 7 0 0 1000", 24);
         bad(x, "source 1;fact 7 0 5 5 0", 9);
-        bad(x, "source 1;fact 7 1 0 5 0", 9);
+        bad(x, "source 1;fact 7 7 0 5 0", 9);
         right(x, "source 1;fact 7 0 0 1000 99;fact 7 0 999 1000 0", 3);
         bad(x, "drop 60", 5);
         bad(x, "drop 59", 0);
         bad(x, "hear 8", 5);
         bad(x, "hear 7", 0);
         bad(x, "rank 0 100", 7);
-        bad(x, "rank 1 100", 7);
-        bad(x, "rank 1 9", 0);
+        bad(x, "rank 7 100", 7);
+        bad(x, "rank 7 9", 0);
         bad(x, "rank 8 9", 5);
         bad(x, "cut 7 at 0", 9);
         bad(x, "cut 7 at 1000", 9);
@@ -741,6 +746,9 @@ public final class PromiseTests {
             due("what " + what, x.heard(0, what), heard[what]);
             due("other what " + what, x.heard(1, what), other[what]);
         }
+        tell(x, "fact 7 1 0 1 1;fact 7 1 999 1000 1");
+        due("voice at both ends", x.heard(1, 3), 7);
+        tell(x, "drop 4;drop 5");
         x.hush(1, false);
         due("silent", x.heard(1, 1), 1);
         due("facts of a silent one", x.heard(1, 2), 1);
@@ -773,6 +781,8 @@ public final class PromiseTests {
         due("one", x.together(1, 1), 15);
         due("by rule, 0 is something", x.together(2, 0), 10);
         due("never", x.together(3, 0), 0);
+        tell(x, "fact 4 0 0 1000 1;rule 5 is 0");
+        due("always", x.together(4, 5), 1000);
         due("by rule", x.together(1, 3), 10);
     }
 
@@ -979,7 +989,9 @@ public final class PromiseTests {
         x.off(1);
         bad(x, "drop 9", 0);
         put(x, "source 1");
+        due("at ahead of back", x.at(0, 17), NONE);
         due("back", x.back(), true);
+        due("at behind back", x.at(0, 17), 1);
         due("remembered", x.count(7), 0);
         fails(STATE, "undo", x::undo);
         due("facts", x.count(1), 1);
@@ -1007,6 +1019,11 @@ public final class PromiseTests {
         x.off(4);
         due("rules", x.count(4), 1);
         due("spans", x.count(6), 1);
+        tell(x, "hush 0;rule 0 is 1;rule 7 is 1");
+        int[] later = {3, 3, 1, 3, 3, 2, 2, 0};
+        for (int what = 0; what < 8; what++) {
+            due("count " + what, x.count(what), later[what]);
+        }
     }
 
     public static void main(String[] args) {
