@@ -9,7 +9,8 @@ import java.util.List;
  * exceptions must be alike. An argument tells how many runs.
  */
 public final class FuzzTests {
-    private static final int CALLS = 512;
+    /** An object is good for 512 calls, and a text may use 25 of them. */
+    private static final int CALLS = 480;
     private static final String[] ASKED = {
         "at", "by", "beneath", "span", "gap", "lack", "change", "run", "first", "told", "how", "heard",
         "accord", "together", "thing", "often", "nearest", "shared", "rest", "better", "longest", "pairs",
@@ -39,6 +40,9 @@ public final class FuzzTests {
     private final boolean crowded;
     /** Few faults, and many rules. */
     private final boolean tidy;
+    /** Begins with eight sources, nearly all the facts that there can be, and long rules. */
+    private final boolean filled;
+    private int calls;
 
     private FuzzTests() {
         things = 1 + below(8);
@@ -46,6 +50,7 @@ public final class FuzzTests {
         values = new int[] {3, 30, 100}[below(3)];
         crowded = oneIn(3);
         tidy = oneIn(2);
+        filled = oneIn(4);
     }
 
     private int time() {
@@ -53,17 +58,22 @@ public final class FuzzTests {
         return oneIn(20) ? 999 - below(3) : below(spread);
     }
 
+    private int told(int what) {
+        calls++;
+        return real.count(what);
+    }
+
     private int aThing() {
         return oneIn(tidy ? 40 : 10) ? near(8) : below(things);
     }
 
     private int aFact() {
-        int n = real.count(1);
+        int n = told(1);
         return n == 0 || oneIn(20) ? near(60) : below(n);
     }
 
     private int aSource() {
-        int n = real.count(0);
+        int n = told(0);
         return n == 0 || oneIn(20) ? near(9) : below(n);
     }
 
@@ -73,6 +83,7 @@ public final class FuzzTests {
 
     /** Calls one method on both; false, if they are unlike. */
     private boolean both(String name, Object... args) {
+        calls++;
         String a = call(real, name, args);
         String b = call(model, name, args);
         log.add(name + Arrays.toString(args) + " -> " + a);
@@ -135,7 +146,7 @@ public final class FuzzTests {
             case "often": return both(name, aThing(), aValue());
             case "longest": return both(name, aThing(), oneIn(2));
             case "pairs": return both(name, aThing(), aThing(), near(13));
-            case "early": return both(name, aThing(), time(), near(real.count(1) + 1));
+            case "early": return both(name, aThing(), time(), near(told(1) + 1));
             case "order": case "idle": return both(name, k);
             case "count": return both(name, near(8));
             default: return both(name);
@@ -214,7 +225,10 @@ public final class FuzzTests {
     }
 
     private boolean tellText() {
-        String text = aText();
+        return tellText(aText());
+    }
+
+    private boolean tellText(String text) {
         int left = oneIn(15) ? 1 : 0;
         for (int i = 0; i < text.length() || i == 0 && left > 0; i += 20) {
             Object[] words = new Object[5];
@@ -233,8 +247,28 @@ public final class FuzzTests {
         return both("end", text.length()) && both("acts") && both("fault") && both("why");
     }
 
+    private boolean fill() {
+        boolean alike = true;
+        for (int i = 0; i < 8 && alike; i++) {
+            alike = both("source", below(4) * 20);
+        }
+        for (int i = 55 + below(6); i > 0 && alike; i--) {
+            int from = below(1000);
+            alike = both("fact", below(things), below(8), from, Math.min(1000, from + 1 + below(200)), below(values));
+        }
+        for (int thing = 1; thing < things && alike; thing++) {
+            StringBuilder sb = new StringBuilder("rule " + thing + " is " + atom(thing, 5));
+            for (int i = below(12); i > 0; i--) {
+                sb.append(new String[] {"+", " min ", " max ", " else ", "-", " unless "}[below(6)]).append(atom(thing, 5));
+            }
+            alike = tellText(sb.toString());
+        }
+        return alike;
+    }
+
     private boolean goOn() {
-        for (int i = 0; i < CALLS; i++) {
+        if (filled && !fill()) return false;
+        while (calls < CALLS) {
             int kind = below(10);
             boolean alike = kind < 4 ? act() : kind == 4 ? tellText() : ask();
             if (!alike) return false;
@@ -243,7 +277,7 @@ public final class FuzzTests {
     }
 
     public static void main(String[] args) {
-        int runs = args.length > 0 ? Integer.parseInt(args[0]) : 100;
+        int runs = args.length > 0 ? Integer.parseInt(args[0]) : 200;
         for (int run = 0; run < runs; run++) {
             seed = run * 7919L + 17;
             FuzzTests test = new FuzzTests();

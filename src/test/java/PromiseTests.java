@@ -1,100 +1,5 @@
-import java.util.NoSuchElementException;
-
 /** For each promise of the document: ordinary inputs, the edges that it names, and wrong inputs. */
-public final class PromiseTests {
-    private static final int NONE = FactLines.NONE;
-    private static final String BOUNDS = "IndexOutOfBoundsException";
-    private static final String ARGUMENT = "IllegalArgumentException";
-    private static final String STATE = "IllegalStateException";
-    private static final String ELEMENT = "NoSuchElementException";
-
-    interface Call {
-        Object answer();
-    }
-
-    private static int promise;
-    private static int asked;
-    private static int wrong;
-
-    private static void due(String call, long got, long want) {
-        asked++;
-        if (got != want) {
-            wrong++;
-            System.out.println("promise " + promise + ": " + call + " answered " + got + ", due is " + want);
-        }
-    }
-
-    private static void due(String call, boolean got, boolean want) {
-        due(call, got ? 1 : 0, want ? 1 : 0);
-    }
-
-    private static void fails(String exception, String call, Call made) {
-        asked++;
-        String got;
-        try {
-            got = "answers " + made.answer();
-        } catch (RuntimeException e) {
-            // Only the very class counts: a subclass would be the machine's own.
-            got = e.getClass().getSimpleName();
-        }
-        if (!got.equals(exception)) {
-            wrong++;
-            System.out.println("promise " + promise + ": " + call + " " + got + ", due is " + exception);
-        }
-    }
-
-    private static void refused(FactLines x, int why, String call, Call made) {
-        fails(STATE, call, made);
-        due(call + ", why()", x.why(), why);
-    }
-
-    // ---- texts ----
-
-    private static int word(String text, int at) {
-        int n = 0;
-        for (int i = at; i < at + 4; i++) {
-            n = n << 8 | (i < text.length() ? text.charAt(i) : 0);
-        }
-        return n;
-    }
-
-    private static void put(FactLines x, String text) {
-        x.end(0);
-        for (int i = 0; i < text.length(); i += 20) {
-            x.feed(word(text, i), word(text, i + 4), word(text, i + 8), word(text, i + 12), word(text, i + 16));
-        }
-        x.end(text.length());
-    }
-
-    private static int tell(FactLines x, String text) {
-        put(x, text);
-        return x.acts();
-    }
-
-    private static void right(FactLines x, String text, int acts) {
-        put(x, text);
-        int got;
-        try {
-            got = x.acts();
-        } catch (IllegalArgumentException e) {
-            got = -1000 - x.fault();
-        }
-        due("text " + text, got, acts);
-        due("text " + text + ", fault()", x.fault(), NONE);
-    }
-
-    private static void bad(FactLines x, String text, int at) {
-        put(x, text);
-        fails(ARGUMENT, "text " + text, x::acts);
-        due("text " + text + ", fault()", x.fault(), at);
-    }
-
-    private static FactLines of(String text) {
-        FactLines x = new FactLines();
-        tell(x, text);
-        return x;
-    }
-
+public final class PromiseTests extends Check {
     // ---- 1 to 6: the tape and texts ----
 
     private static void p1() {
@@ -1037,18 +942,8 @@ public final class PromiseTests {
             PromiseTests::p36, PromiseTests::p37, PromiseTests::p38, PromiseTests::p39, PromiseTests::p40,
             PromiseTests::p41, PromiseTests::p42};
         for (int i = 0; i < all.length; i++) {
-            promise = i + 1;
-            try {
-                all[i].run();
-            } catch (RuntimeException e) {
-                wrong++;
-                System.out.println("promise " + promise + ": broke off by " + e);
-                e.printStackTrace(System.out);
-            }
+            go("promise " + (i + 1), all[i]);
         }
-        System.out.println(wrong == 0 ? asked + " answers are as due" : wrong + " answers are not as due");
-        if (wrong != 0) {
-            System.exit(1);
-        }
+        close();
     }
 }
