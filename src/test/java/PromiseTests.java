@@ -274,6 +274,12 @@ public final class PromiseTests extends Check {
         due("the other one", x.at(0, 6), 3);
         due("hear", x.hush(0, true), 1);
         due("heard again", x.at(0, 1), 1);
+        FactLines y = of("source 5;source 6;fact 0 0 0 20 1;fact 7 0 5 10 2;fact 0 0 5 8 3");
+        due("hush one of three facts", y.hush(0, false), 3);
+        due("hush one without facts", y.hush(1, false), 0);
+        y.drop(2);
+        due("hear one of two", y.hush(0, true), 2);
+        due("hear one without facts", y.hush(1, true), 0);
     }
 
     private static void p11() {
